@@ -839,7 +839,7 @@ public final class KernelText {
                     writers |= kernel.bitOf(i);
                 }
             }
-            // A WORD reads ahead of its own writing, so writers that are come to count as readers.
+            // The walk comes to writers, too, for a WORD reads ahead of its own writing.
             return (walk(k, writers) & readers) != 0;
         }
 

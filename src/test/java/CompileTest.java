@@ -33,15 +33,15 @@ public final class CompileTest {
         for (int i = 0; i < three.length; i++) {
             makes(three[i] + " r1,r2,r15;", Due.bits(4 + i, 1, 2, 15, 0, 0));
         }
-        makes("addn r1,r2,-3;", Due.bits(18, 1, 2, 0, 0, -3));
-        makes("muln r1,r2,3;", Due.bits(19, 1, 2, 0, 0, 3));
-        makes("andn r1,r2,3;", Due.bits(20, 1, 2, 0, 0, 3));
-        makes("swap r1,r2,3;", Due.bits(73, 1, 2, 0, 0, 3));
+        makes("addn r1,r2,-4;", Due.bits(18, 1, 2, 0, 0, -4));
+        makes("muln r1,r2,4;", Due.bits(19, 1, 2, 0, 0, 4));
+        makes("andn r1,r2,4;", Due.bits(20, 1, 2, 0, 0, 4));
+        makes("swap r1,r2,4;", Due.bits(73, 1, 2, 0, 0, 4));
         makes("pick r1,r2,r3,p2;", Due.bits(21, 1, 2, 3, 0, 2));
         makes("less p1,r2,r3;", Due.bits(30, 1, 2, 3, 0, 0));
         makes("same p1,r2,r3;", Due.bits(31, 1, 2, 3, 0, 0));
-        makes("lessn p1,r2,9;", Due.bits(32, 1, 2, 0, 0, 9));
-        makes("samen p1,r2,9;", Due.bits(33, 1, 2, 0, 0, 9));
+        makes("lessn p1,r2,8;", Due.bits(32, 1, 2, 0, 0, 8));
+        makes("samen p1,r2,8;", Due.bits(33, 1, 2, 0, 0, 8));
         makes("both p1,p2,p3;", Due.bits(34, 1, 2, 3, 0, 0));
         makes("either p1,p2,p3;", Due.bits(35, 1, 2, 3, 0, 0));
         makes("not p1,p2;", Due.bits(36, 1, 2, 0, 0, 0));

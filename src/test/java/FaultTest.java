@@ -92,6 +92,10 @@ public final class FaultTest {
         faultIs("exit;go", "1@7");
         faultIs("load r1,(r2+", "1@12");
         faultIs("a:".repeat(350), "1@700");
+        faultIs(" ".repeat(696) + "exit", "1@700");
+        faultIs(" ".repeat(692) + "set r1,5", "1@700");
+        faultIs(" ".repeat(696) + "nope", "1@696");
+        faultIs(";".repeat(700), "0@0");
     }
 
     private static void namesWhereWordsCan() {
@@ -185,7 +189,13 @@ public final class FaultTest {
         x.type('a', 1);
         x.set(0, 5);
         CHECK.due("other calls leave it", x.fault(0) * 100 + x.fault(1), 303);
-        Due.compile(x, ":;");
+        Due.compile(x, "a".repeat(20));
+        Due.compile(x, "exit");
+        CHECK.due("letters of an older tape are no part of this one", x.fault(1), 4);
+        Due.compile(x, "0".repeat(20));
+        Due.compile(x, "set r1,5");
+        CHECK.due("nor are its digits", x.fault(1), 8);
+        Due.compile(x, "a:;");
         CHECK.due("no kind behind a good one", x.fault(0), 0);
         CHECK.due("no place behind a good one", x.fault(1), 0);
         CHECK.due("what 2 behind a good one", x.fault(2), -1);

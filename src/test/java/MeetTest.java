@@ -31,6 +31,8 @@ public final class MeetTest {
         meetIs("nested apart, inner", "@p0 go 4;@p1 go 3;sync;sync;exit;", 1, 3);
         meetIs("through k again", "sync;@p0 go 0;sync;exit;", 1, 2);
         meetIs("ways that cross", "@p0 go 3;@p1 go 4;go 5;go 4;go 5;exit;", 0, 5);
+        meetIs("behind, at the first place", "@p1 go 4;@p0 go 3;go 0;go 0;exit;", 1, 0);
+        meetIs("and from there", "@p1 go 4;@p0 go 3;go 0;go 0;exit;", 0, 4);
         edges();
         CHECK.end();
     }
