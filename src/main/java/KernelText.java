@@ -22,6 +22,7 @@ public final class KernelText {
     private static final int TURNED_GUARD = 12;
     private static final int N_SHIFT = 32;
     private static final long NIBBLE = 15L;
+    private static final long CODE = 255L;
     private static final long LOW_HALF = 0xFFFFFFFFL;
     private static final String SIGNS = ";:,@!=-()+";
 
@@ -231,11 +232,45 @@ public final class KernelText {
         /** The Op whose TEXT makes w, or null if none does. */
         static Op of(long w) {
             for (int i = 0; i < OPS.length; i++) {
-                if (OPS[i].makes(w)) {
+                if (OPS[i].hasCodeOf(w) && OPS[i].makes(w)) {
                     return OPS[i];
                 }
             }
             return null;
+        }
+
+        /** The first Op with the op of w, or null if it is on no list; whether a TEXT makes w or not. */
+        private static Op listed(long w) {
+            for (int i = 0; i < OPS.length; i++) {
+                if (OPS[i].hasCodeOf(w)) {
+                    return OPS[i];
+                }
+            }
+            return null;
+        }
+
+        // No sentence excepts a long that no TEXT makes from reading, as one does for its WAYS.
+        static int readsOf(long w) {
+            Op op = listed(w);
+            String parts = op == null ? "" : op.parts;
+            int guard = guardOf(w);
+            int mask = guard < PLAIN_GUARD ? 0 : 1 << REGISTERS + guard % PREDICATES;
+            for (int i = 0; i < parts.length(); i++) {
+                char part = parts.charAt(i);
+                if (part == 'a' || part == 'b' || part == 'A' || part == 'B' || part == 'q') {
+                    mask |= bitOf(part, w);
+                }
+            }
+            return op == ATCAS ? mask | bitOf('d', w) : mask;
+        }
+
+        static int writesOf(long w) {
+            Op op = listed(w);
+            String parts = op == null ? "" : op.parts;
+            if (parts.indexOf('d') >= 0) {
+                return bitOf('d', w);
+            }
+            return parts.indexOf('D') >= 0 ? bitOf('D', w) : 0;
         }
 
         static int guardOf(long w) {
@@ -290,9 +325,17 @@ public final class KernelText {
             return shift == NONE ? 0 : (int) (w >> shift & NIBBLE);
         }
 
-        /** The bit of live's register or predicate that a part of w names. */
+        /** The bit of live's register or predicate that a part of w names; 0 if there is none such. */
         private static int bitOf(char part, long w) {
-            return 1 << (isPredicate(part) ? REGISTERS : 0) + fieldOf(part, w);
+            int field = fieldOf(part, w);
+            if (field < 0 || field > mostOf(part)) {
+                return 0;
+            }
+            return 1 << (isPredicate(part) ? REGISTERS : 0) + field;
+        }
+
+        private boolean hasCodeOf(long w) {
+            return (base & CODE) == (w & CODE);
         }
 
         private boolean makes(long w) {
@@ -326,25 +369,6 @@ public final class KernelText {
 
         boolean isLast() {
             return this == EXIT || this == WORD || this == BACK;
-        }
-
-        int reads(long w) {
-            int guard = guardOf(w);
-            int mask = guard == 0 ? 0 : 1 << REGISTERS + guard % PREDICATES;
-            for (int i = 0; i < parts.length(); i++) {
-                char part = parts.charAt(i);
-                if (part == 'a' || part == 'b' || part == 'A' || part == 'B' || part == 'q') {
-                    mask |= bitOf(part, w);
-                }
-            }
-            return this == ATCAS ? mask | bitOf('d', w) : mask;
-        }
-
-        int writes(long w) {
-            if (parts.indexOf('d') >= 0) {
-                return bitOf('d', w);
-            }
-            return parts.indexOf('D') >= 0 ? bitOf('D', w) : 0;
         }
     }
 
@@ -751,6 +775,9 @@ public final class KernelText {
         final long[] words = new long[MOST_WORDS];
         // The Op of each WORD, null of one that no TEXT makes.
         final Op[] ops = new Op[MOST_WORDS];
+        // What each WORD reads, and what it surely writes, a bit for each register and predicate.
+        private final int[] reads = new int[MOST_WORDS];
+        private final int[] overwrites = new int[MOST_WORDS];
         int count = 0;
 
         boolean has(int k) {
@@ -768,6 +795,8 @@ public final class KernelText {
             }
             words[k] = w;
             ops[k] = Op.of(w);
+            reads[k] = Op.readsOf(w);
+            overwrites[k] = Op.isGuarded(w) ? 0 : Op.writesOf(w);
             count = Math.max(count, k + 1);
         }
 
@@ -788,14 +817,24 @@ public final class KernelText {
             return many;
         }
 
-        /** What WORD k reads, as bits; nothing if no TEXT makes it. */
-        int reads(int k) {
-            return has(k) && ops[k] != null ? ops[k].reads(words[k]) : 0;
+        /** The PLACES of WORDS that read register or predicate r. */
+        long readersOf(int r) {
+            return having(reads, r);
         }
 
-        /** What WORD k surely writes. */
-        int overwrites(int k) {
-            return has(k) && ops[k] != null && !Op.isGuarded(words[k]) ? ops[k].writes(words[k]) : 0;
+        /** The PLACES of WORDS without a GUARD that write it. */
+        long overwritersOf(int r) {
+            return having(overwrites, r);
+        }
+
+        private long having(int[] masks, int r) {
+            long places = 0;
+            for (int k = 0; k < count && k < masks.length; k++) {
+                if ((masks[k] >> r & 1) != 0) {
+                    places |= bitOf(k);
+                }
+            }
+            return places;
         }
     }
 
@@ -829,18 +868,8 @@ public final class KernelText {
         }
 
         boolean comesToRead(int k, int r) {
-            long readers = 0;
-            long writers = 0;
-            for (int i = 0; i < kernel.count; i++) {
-                if ((kernel.reads(i) >> r & 1) != 0) {
-                    readers |= kernel.bitOf(i);
-                }
-                if ((kernel.overwrites(i) >> r & 1) != 0) {
-                    writers |= kernel.bitOf(i);
-                }
-            }
-            // The walk comes to writers, too, for a WORD reads ahead of its own writing.
-            return (walk(k, writers) & readers) != 0;
+            // The walk comes to those that write, too, for a WORD reads ahead of its own writing.
+            return (walk(k, kernel.overwritersOf(r)) & kernel.readersOf(r)) != 0;
         }
 
         int meetOf(int k) {

@@ -1,34 +1,88 @@
 /** Promise 13: totals. */
 public final class TotalTest {
+    private static final Due CHECK = new Due();
+
     public static void main(String[] args) {
-        Due check = new Due();
-        KernelText x = Due.made("n=5;l:go l;m:;k:sync;word 7;");
-        check.due("words", x.total(0), 3);
-        check.due("reached ones", x.total(1), 1);
-        check.due("labels and constants", x.total(2), 4);
-        check.due("none that no text makes", x.total(3), 0);
-        for (int what : new int[] {-1, 4, 5, Integer.MIN_VALUE, Integer.MAX_VALUE}) {
-            check.due("total " + what, x.total(what), -1);
+        words();
+        reachedOnes();
+        names();
+        unmade();
+        CHECK.sentence("total: NONE for another what");
+        for (KernelText x : new KernelText[] {new KernelText(), Due.made("a:exit;")}) {
+            for (int what : new int[] {-1, 4, 5, 256, Integer.MIN_VALUE, Integer.MAX_VALUE}) {
+                CHECK.due("total " + what, x.total(what), -1);
+            }
+            CHECK.due("total 0", x.total(0) >= 0, true);
+            CHECK.due("total 3", x.total(3), 0);
         }
+        CHECK.end();
+    }
+
+    private static void words() {
+        CHECK.sentence("What 0: WORDS");
+        for (int many : new int[] {0, 1, 63, 64}) {
+            KernelText x = Due.made("sync;".repeat(many));
+            CHECK.due("of " + many, x.total(0), many);
+            CHECK.due("one more than " + many, x.set(many, 0), many < 64);
+            CHECK.due("then", x.total(0), Math.min(many + 1, 64));
+            Due.compile(x, "nope;");
+            CHECK.due("behind a fault", x.total(0), Math.min(many + 1, 64));
+            Due.compile(x, "exit;exit;");
+            CHECK.due("behind a good text", x.total(0), 2);
+        }
+    }
+
+    private static void reachedOnes() {
+        CHECK.sentence("1: REACHED ones");
+        CHECK.due("none", new KernelText().total(1), 0);
+        CHECK.due("64", Due.made("sync;".repeat(64)).total(1), 64);
+        KernelText x = Due.made("l:go l;sync;word 7;");
+        CHECK.due("one", x.total(1), 1);
         x.set(0, 1);
-        check.due("reached, one word changed", x.total(1), 3);
+        CHECK.due("one word changed", x.total(1), 3);
+        x.set(3, 0);
+        CHECK.due("behind word", x.total(1), 3);
+        x.set(1, 1L << 24);
+        CHECK.due("up to one that no text makes", x.total(1), 2);
+        Due.compile(x, "go 1;exit;");
+        CHECK.due("anew", x.total(1), 2);
+    }
+
+    private static void names() {
+        CHECK.sentence("2: LABELS and CONSTANTS of the latest good compile()");
+        KernelText x = Due.made("n=5;l:go l;m:;k:sync;");
+        CHECK.due("four", x.total(2), 4);
+        x.set(0, 1);
+        CHECK.due("behind set", x.total(2), 4);
+        Due.compile(x, "y=1;y=2;");
+        CHECK.due("behind a fault", x.total(2), 4);
+        Due.compile(x, "a:b:c:d:e:#");
+        CHECK.due("behind another fault", x.total(2), 4);
+        Due.compile(x, "y=1;exit;");
+        CHECK.due("behind a good one", x.total(2), 1);
+        Due.compile(x, "exit;");
+        CHECK.due("none", x.total(2), 0);
+    }
+
+    private static void unmade() {
+        CHECK.sentence("3: WORDS that no TEXT makes");
+        KernelText x = Due.made("sync;sync;sync;");
+        CHECK.due("none", x.total(3), 0);
         x.set(3, 255);
+        CHECK.due("one", x.total(3), 1);
         x.set(4, -1);
         x.set(1, 1L << 24);
-        check.due("words, two more", x.total(0), 5);
-        check.due("reached up to one that no text makes", x.total(1), 2);
-        check.due("three that no text makes", x.total(3), 3);
-        check.due("names stay", x.total(2), 4);
-        Due.compile(x, "y=1;y=2;");
-        check.due("names stay behind a fault", x.total(2), 4);
-        check.due("words stay behind a fault", x.total(0), 5);
-        Due.compile(x, "y=1;exit;");
-        check.due("names anew", x.total(2), 1);
-        check.due("words anew", x.total(0), 1);
-        check.due("unmade anew", x.total(3), 0);
-        check.due("reached anew", x.total(1), 1);
-        KernelText full = Due.made("sync;".repeat(64));
-        check.due("64 reached", full.total(1), 64);
-        check.end();
+        CHECK.due("three", x.total(3), 3);
+        x.set(1, 1);
+        CHECK.due("two", x.total(3), 2);
+        Due.compile(x, "nope;");
+        CHECK.due("two behind a fault", x.total(3), 2);
+        Due.compile(x, "exit;");
+        CHECK.due("none anew", x.total(3), 0);
+        KernelText full = new KernelText();
+        for (int k = 0; k < 64; k++) {
+            full.set(k, 99);
+        }
+        CHECK.due("64", full.total(3), 64);
     }
 }
