@@ -127,6 +127,12 @@ public final class LetterTest {
         textIs(Due.bits(50, 1, 1, 1, 0, 0), "?;");
         textIs(Due.bits(51, 1, 1, 1, 0, 0), "?;");
         textIs(Due.bits(54, 1, 1, 1, 0, 0), "atadd r1,(r1+0),r1;");
+        for (int op : new int[] {1, 4, 10, 17, 30, 31, 34, 35, 36, 42, 70, 71, 72}) {
+            unmadeFromBit(op, 32);
+        }
+        unmadeFromBit(21, 34);
+        unmadeFromBit(40, 38);
+        unmadeFromBit(41, 38);
 
         CHECK.sentence("A long that no TEXT makes: ?; (p: p0 .. p3)");
         textIs(Due.bits(21, 1, 2, 3, 0, 3), "pick r1,r2,r3,p3;");
@@ -153,6 +159,14 @@ public final class LetterTest {
                 String text = (op == 40 ? "go " : "call r0,") + n + ";";
                 textIs(Due.bits(op, 0, 0, 0, 0, n), n >= 0 && n <= 63 ? text : "?;");
             }
+        }
+    }
+
+    /** That a word with n 0 is made, and no word with one of n's bits from this one on. */
+    private static void unmadeFromBit(int op, int first) {
+        CHECK.due("op " + op, Due.holding(op).total(3), 0);
+        for (int bit = first; bit < 64; bit++) {
+            CHECK.due("op " + op + " with bit " + bit, Due.holding(op | 1L << bit).total(3), 1);
         }
     }
 
