@@ -239,40 +239,6 @@ public final class KernelText {
             return null;
         }
 
-        /** The first Op with the op of w, or null if it is on no list; whether a TEXT makes w or not. */
-        private static Op listed(long w) {
-            for (int i = 0; i < OPS.length; i++) {
-                if (OPS[i].hasCodeOf(w)) {
-                    return OPS[i];
-                }
-            }
-            return null;
-        }
-
-        // No sentence excepts a long that no TEXT makes from reading, as one does for its WAYS.
-        static int readsOf(long w) {
-            Op op = listed(w);
-            String parts = op == null ? "" : op.parts;
-            int guard = guardOf(w);
-            int mask = guard < PLAIN_GUARD ? 0 : 1 << REGISTERS + guard % PREDICATES;
-            for (int i = 0; i < parts.length(); i++) {
-                char part = parts.charAt(i);
-                if (part == 'a' || part == 'b' || part == 'A' || part == 'B' || part == 'q') {
-                    mask |= bitOf(part, w);
-                }
-            }
-            return op == ATCAS ? mask | bitOf('d', w) : mask;
-        }
-
-        static int writesOf(long w) {
-            Op op = listed(w);
-            String parts = op == null ? "" : op.parts;
-            if (parts.indexOf('d') >= 0) {
-                return bitOf('d', w);
-            }
-            return parts.indexOf('D') >= 0 ? bitOf('D', w) : 0;
-        }
-
         static int guardOf(long w) {
             return (int) (w >> GUARD_SHIFT & NIBBLE);
         }
@@ -325,13 +291,9 @@ public final class KernelText {
             return shift == NONE ? 0 : (int) (w >> shift & NIBBLE);
         }
 
-        /** The bit of live's register or predicate that a part of w names; 0 if there is none such. */
+        /** The bit of live's register or predicate that a part of w names. */
         private static int bitOf(char part, long w) {
-            int field = fieldOf(part, w);
-            if (field < 0 || field > mostOf(part)) {
-                return 0;
-            }
-            return 1 << (isPredicate(part) ? REGISTERS : 0) + field;
+            return 1 << (isPredicate(part) ? REGISTERS : 0) + fieldOf(part, w);
         }
 
         private boolean hasCodeOf(long w) {
@@ -369,6 +331,25 @@ public final class KernelText {
 
         boolean isLast() {
             return this == EXIT || this == WORD || this == BACK;
+        }
+
+        /** What w, which this Op's TEXT makes, reads: a bit for each register and predicate. */
+        int readsOf(long w) {
+            int mask = isGuarded(w) ? 1 << REGISTERS + guardOf(w) % PREDICATES : 0;
+            for (int i = 0; i < parts.length(); i++) {
+                char part = parts.charAt(i);
+                if (part == 'a' || part == 'b' || part == 'A' || part == 'B' || part == 'q') {
+                    mask |= bitOf(part, w);
+                }
+            }
+            return this == ATCAS ? mask | bitOf('d', w) : mask;
+        }
+
+        int writesOf(long w) {
+            if (parts.indexOf('d') >= 0) {
+                return bitOf('d', w);
+            }
+            return parts.indexOf('D') >= 0 ? bitOf('D', w) : 0;
         }
     }
 
@@ -793,10 +774,12 @@ public final class KernelText {
             if (k < 0 || k > count || k >= MOST_WORDS) {
                 return;
             }
+            Op op = Op.of(w);
             words[k] = w;
-            ops[k] = Op.of(w);
-            reads[k] = Op.readsOf(w);
-            overwrites[k] = Op.isGuarded(w) ? 0 : Op.writesOf(w);
+            ops[k] = op;
+            // A long that no TEXT makes has no NAME, and so is on no list of those that read or write.
+            reads[k] = op == null ? 0 : op.readsOf(w);
+            overwrites[k] = op == null || Op.isGuarded(w) ? 0 : op.writesOf(w);
             count = Math.max(count, k + 1);
         }
 

@@ -173,31 +173,56 @@ public final class LiveTest {
     }
 
     private static void unmade() {
-        CHECK.sentence("A WORD reads: .. by the list (of what no TEXT makes too; it has no WAYS on)");
-        unmadeIs(Due.bits(4, 1, 2, 3, 0, 1), "r2 r3");
-        unmadeIs(Due.bits(4, 1, 2, 3, 9, 1), "r2 r3 p1");
-        unmadeIs(Due.bits(4, 1, 2, 3, 1, 0), "r2 r3");
-        unmadeIs(Due.bits(4, 1, 2, 3, 0, 0) | 1L << 24, "r2 r3");
-        unmadeIs(Due.bits(18, 1, 2, 3, 0, 1), "r2");
-        unmadeIs(Due.bits(57, 1, 2, 3, 0, 1) | 1L << 31, "r1 r2 r3");
-        unmadeIs(Due.bits(21, 1, 2, 3, 0, 4), "r2 r3");
-        unmadeIs(Due.bits(21, 1, 2, 3, 0, -16), "r2 r3");
-        unmadeIs(Due.bits(21, 1, 2, 3, 0, 3) | 1L << 24, "r2 r3 p3");
-        unmadeIs(Due.bits(34, 0, 4, 3, 0, 0), "p3");
-        unmadeIs(Due.bits(34, 0, 3, 15, 0, 0), "p3");
-        unmadeIs(Due.bits(36, 4, 2, 0, 0, 0), "p2");
-        unmadeIs(Due.bits(40, 2, 2, 2, 0, 64), "");
-        unmadeIs(Due.bits(2, 2, 2, 2, 0, 64), "");
-        unmadeIs(Due.bits(200, 2, 2, 2, 10, 5), "p2");
-        unmadeIs(Due.bits(200, 2, 2, 2, 7, 5), "");
-        unmadeIs(Due.bits(22, 2, 2, 2, 0, 0), "");
-        unmadeIs(-1, "p3");
+        CHECK.sentence("A long that no TEXT makes: ?; (it has no NAME, so it reads and writes nothing by the list)");
+        madeReads(Due.bits(4, 1, 2, 3, 0, 0), "r2 r3");
+        unmadeReads(Due.bits(4, 1, 2, 3, 0, 1));
+        unmadeReads(Due.bits(4, 1, 2, 3, 0, 0) | 1L << 24);
+        unmadeReads(Due.bits(4, 1, 2, 3, 1, 0));
+        unmadeReads(Due.bits(4, 1, 2, 3, 7, 0));
+        madeReads(Due.bits(18, 1, 2, 0, 0, 5), "r2");
+        unmadeReads(Due.bits(18, 1, 2, 3, 0, 5));
+        madeReads(Due.bits(57, 1, 2, 3, 0, 5), "r1 r2 r3");
+        unmadeReads(Due.bits(57, 1, 2, 3, 0, 5) | 1L << 31);
+        madeReads(Due.bits(21, 1, 2, 3, 0, 3), "r2 r3 p3");
+        unmadeReads(Due.bits(21, 1, 2, 3, 0, 4));
+        unmadeReads(Due.bits(21, 1, 2, 3, 0, -16));
+        madeReads(Due.bits(34, 0, 3, 2, 0, 0), "p2 p3");
+        unmadeReads(Due.bits(34, 0, 3, 4, 0, 0));
+        unmadeReads(Due.bits(34, 4, 3, 2, 0, 0));
+        unmadeReads(Due.bits(36, 0, 2, 1, 0, 0));
+        unmadeReads(Due.bits(42, 1, 2, 0, 0, 0));
+        unmadeReads(Due.bits(22, 2, 2, 2, 0, 0));
+
+        CHECK.sentence("A long that no TEXT makes: ?; (its TEXT has no GUARD, so it reads no GUARD's p)");
+        unmadeReads(Due.bits(4, 1, 2, 3, 9, 1));
+        unmadeReads(Due.bits(200, 0, 0, 0, 10, 0));
+        unmadeReads(Due.bits(40, 0, 0, 0, 15, 64));
+        unmadeReads(-1);
+        KernelText x = Due.holding(Due.bits(4, 1, 2, 3, 9, 0));
+        CHECK.due("a word with a guard", Due.liveAt(x, 0), "r2 r3 p1");
+
+        CHECK.sentence("of what no TEXT makes none (WAYS): nothing behind it is come to");
+        CHECK.due("behind a word", Due.liveAt(Due.made("sync;sync;back r14;"), 0), "r14");
+        x = Due.made("sync;sync;back r14;");
+        x.set(1, 1L << 24 | 1);
+        CHECK.due("behind a long that no text makes", Due.liveAt(x, 0), "");
+        CHECK.due("behind its place", Due.liveAt(x, 2), "r14");
+        x.set(1, 1);
+        CHECK.due("behind a word again", Due.liveAt(x, 0), "r14");
     }
 
-    private static void unmadeIs(long w, String want) {
+    private static void unmadeReads(long w) {
         KernelText x = Due.made("sync;sync;back r14;");
         x.set(1, w);
         CHECK.due("no text makes " + w, x.total(3), 1);
+        CHECK.due("live ahead of " + w, Due.liveAt(x, 1), "");
+        CHECK.due("live one place ahead of " + w, Due.liveAt(x, 0), "");
+    }
+
+    private static void madeReads(long w, String want) {
+        KernelText x = Due.made("sync;sync;exit;");
+        x.set(1, w);
+        CHECK.due("a text makes " + w, x.total(3), 0);
         CHECK.due("live ahead of " + w, Due.liveAt(x, 1), want);
         CHECK.due("live one place ahead of " + w, Due.liveAt(x, 0), want);
     }

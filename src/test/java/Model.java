@@ -368,12 +368,15 @@ final class Model {
 
     private static BitSet reads(long w) {
         BitSet set = new BitSet();
+        if (spelled(w).equals("?;")) {
+            return set;
+        }
         int op = (int) (w & 255);
         int d = (int) (w >> 8 & 15);
         int a = (int) (w >> 12 & 15);
         int b = (int) (w >> 16 & 15);
         int g = (int) (w >> 20 & 15);
-        if (g >= 8) {
+        if (g != 0) {
             set.set(16 + (g & 3));
         }
         if (among(op, 4, 21, 30, 33, 50, 59, 73, 73, 42, 42)) {
@@ -385,7 +388,7 @@ final class Model {
         if (op == 57) {
             set.set(d);
         }
-        if (op == 21 && w >> 32 >= 0 && w >> 32 < 4) {
+        if (op == 21) {
             set.set(16 + (int) (w >> 32));
         }
         if (among(op, 34, 36, 70, 72)) {
@@ -401,7 +404,7 @@ final class Model {
         BitSet set = new BitSet();
         int op = (int) (w & 255);
         int d = (int) (w >> 8 & 15);
-        if ((w >> 20 & 15) != 0) {
+        if ((w >> 20 & 15) != 0 || spelled(w).equals("?;")) {
             return set;
         }
         if (among(op, 2, 21, 41, 41, 50, 50, 52, 52, 54, 59, 72, 73)) {
