@@ -1,7 +1,7 @@
 import com.sun.management.ThreadMXBean;
 import java.lang.management.ManagementFactory;
 
-/** That calls leave nothing in memory: rows are made with the object, and used again. */
+/** That calls make next to no objects: rows are made with the object, and used again. */
 public final class RoomTest {
     private static final Due CHECK = new Due();
     private static final ThreadMXBean MEMORY = (ThreadMXBean) ManagementFactory.getThreadMXBean();
